@@ -21,6 +21,7 @@ public final class PromiseTest {
         arcs();
         least();
         leastLow();
+        leastAgainstTheOrder();
         agree();
         fewest();
         on();
@@ -228,10 +229,27 @@ public final class PromiseTest {
                 dueByEachEngine(longest, s, t, LOW);
             }
         }
+        PathSuite fiveAround = network(0, 2, 5, 2, 3, 1, 3, 4, 1, 4, 5, -5, 5, 6, 1, 6, 2, 1, 6, 1, 5);
+        dueByEachEngine(fiveAround, 0, 1, LOW);
+        dueByEachEngine(fiveAround, 1, 1, 0);
         PathSuite loop = network(3, 3, -1, 3, 4, 20, 2, 3, 20);
         dueByEachEngine(loop, 3, 3, LOW);
         dueByEachEngine(loop, 2, 4, LOW);
         dueByEachEngine(loop, 4, 4, 0);
+    }
+
+    // The arcs stand in the order in which a round over them brings a walk on by one arc only.
+    private static void leastAgainstTheOrder() {
+        PathSuite x = network(5, 6, -1, 4, 5, -1, 3, 4, -1, 2, 3, -1, 1, 2, -1, 0, 1, -1);
+        dueByEachEngine(x, 0, 6, -6);
+        dueByEachEngine(x, 0, 5, -5);
+        PathSuite low = network(4, 5, 0, 3, 4, 0, 2, 3, 0, 1, 2, 0, 0, 1, 20, 0, 0, -1, 6, 0, 20,
+                6, 1, -20, 6, 2, -20, 6, 3, -20, 6, 4, -20, 6, 5, -20);
+        for (int t = 0; t < 6; t++) {
+            dueByEachEngine(low, 6, t, LOW);
+        }
+        dueByEachEngine(low, 6, 6, 0);
+        dueByEachEngine(low, 1, 5, 0);
     }
 
     // Promise 7
@@ -331,8 +349,10 @@ public final class PromiseTest {
         due("calm, a ring of -1", x.calm(), false);
         x.remove(1);
         due("calm, weights below 0 without a ring", x.calm(), true);
-        due("calm, a loop", network(3, 3, -1).calm(), false);
-        due("calm, a loop of 0", network(3, 3, 0).calm(), true);
+        for (int p = 0; p < 7; p++) {
+            due("calm, a loop", network(p, p, -1).calm(), false);
+            due("calm, a loop of 0", network(p, p, 0).calm(), true);
+        }
     }
 
     // Promises 13 and 14
@@ -350,7 +370,10 @@ public final class PromiseTest {
         dueMean(network(6, 6, 20), 20, 1);
         dueMean(network(6, 6, 4, 0, 1, 1, 1, 0, 6, 5, 5, 5), 7, 2);
         dueMean(network(0, 1, -20, 1, 2, -1, 2, 1, -2), -3, 2);
-        PathSuite x = network(0, 0, 1);
+        dueMean(network(4, 1, 8, 2, 5, -1, 6, 0, -6, 4, 4, 1, 5, 3, -7, 1, 6, 6, 3, 4, -8), 1, 1);
+        PathSuite x = network(6, 6, 2);
+        due("fewest before a mean", x.fewest(0, 0), 0);
+        dueMean(x, 2, 1);
         for (int engine : NO_MEAN_ENGINES) {
             due("meanTop(" + engine + ")", x.meanTop(engine), BAD);
             due("meanBottom(" + engine + ")", x.meanBottom(engine), BAD);
