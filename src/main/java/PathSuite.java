@@ -460,8 +460,8 @@ public final class PathSuite {
         return p;
     }
 
-    // Engine 4: walks that come to no point twice, by the set of their points. Only these can be
-    // least where there is a least weight; the rings below 0 show where there is none.
+    // Engine 4: walks that come to no point twice, by the set of their points. Where there is a
+    // least weight, one of these has it; the rings below 0 show where there is none.
     private void fillBySets(int[] out) {
         for (int s = 0; s < POINTS; s++) {
             fillSetsFrom(s);
