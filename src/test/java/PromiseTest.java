@@ -1,76 +1,27 @@
-/** Each promise of the document by hand: ordinary inputs, its edges, and wrong inputs. */
-public final class PromiseTest {
-    private static final int BAD = -1000;
-    private static final int FULL = -2000;
-    private static final int NONE = -3000;
-    private static final int LOW = -4000;
-    private static final int[] NO_POINTS = {-1, 7, 8, Integer.MIN_VALUE, Integer.MAX_VALUE};
-    private static final int[] NO_WEIGHTS = {-21, 21, Integer.MIN_VALUE, Integer.MAX_VALUE};
-    private static final int[] NO_ARCS = {-1, 20, 31, 32, Integer.MIN_VALUE, Integer.MAX_VALUE};
-    private static final int[] NO_WALK_ENGINES = {-1, 5, Integer.MIN_VALUE, Integer.MAX_VALUE};
-    private static final int[] NO_MEAN_ENGINES = {-1, 2, 4, Integer.MIN_VALUE, Integer.MAX_VALUE};
-
-    private static final Checks CHECKS = new Checks();
-
+/** Each promise of the document by hand, with ordinary inputs first. The sentences on edges have cases of their own. */
+public final class PromiseTest extends Cases {
     public static void main(String[] args) {
-        newObject();
-        add();
-        addFull();
-        remove();
-        change();
-        arcs();
-        least();
-        leastLow();
-        leastAgainstTheOrder();
-        agree();
-        fewest();
-        on();
-        reached();
-        low();
-        calm();
-        means();
-        onLeastRing();
-        around();
-        widest();
-        refusedCallsChangeNothing();
-        CHECKS.end();
-    }
-
-    private static PathSuite network(int... arcs) {
-        PathSuite x = new PathSuite();
-        for (int i = 0; i < arcs.length; i += 3) {
-            due("add while building", x.add(arcs[i], arcs[i + 1], arcs[i + 2]), i / 3);
-        }
-        return x;
-    }
-
-    private static int bits(int... numbers) {
-        int set = 0;
-        for (int number : numbers) {
-            set |= 1 << number;
-        }
-        return set;
-    }
-
-    private static void due(String call, int got, int want) {
-        CHECKS.due(call, got, want);
-    }
-
-    private static void due(String call, boolean got, boolean want) {
-        CHECKS.due(call, got, want);
-    }
-
-    private static void dueByEachEngine(PathSuite x, int s, int t, int want) {
-        for (int engine = 0; engine < 5; engine++) {
-            due("least(" + engine + ", " + s + ", " + t + ")", x.least(engine, s, t), want);
-        }
-    }
-
-    private static void dueMean(PathSuite x, int top, int bottom) {
-        for (int engine = 0; engine < 2; engine++) {
-            due("meanTop(" + engine + ")", x.meanTop(engine), top);
-            due("meanBottom(" + engine + ")", x.meanBottom(engine), bottom);
-        }
+        test("Promise 1: a new object", PromiseTest::newObject);
+        test("Promise 2: add", PromiseTest::add);
+        test("Promise 2: add, up to twenty", PromiseTest::addFull);
+        test("Promise 3: remove", PromiseTest::remove);
+        test("Promise 4: change", PromiseTest::change);
+        test("Promise 5: arcs", PromiseTest::arcs);
+        test("Promise 6: least", PromiseTest::least);
+        test("Promise 6: least, LOW", PromiseTest::leastLow);
+        test("Promise 6: least, arcs in a slow order", PromiseTest::leastAgainstTheOrder);
+        test("Promise 7: agree", PromiseTest::agree);
+        test("Promise 8: fewest", PromiseTest::fewest);
+        test("Promise 9: on", PromiseTest::on);
+        test("Promise 10: reached", PromiseTest::reached);
+        test("Promise 11: low", PromiseTest::low);
+        test("Promise 12: calm", PromiseTest::calm);
+        test("Promises 13 and 14: meanTop and meanBottom", PromiseTest::means);
+        test("Promise 15: onLeastRing", PromiseTest::onLeastRing);
+        test("Promise 16: around", PromiseTest::around);
+        test("Promise 17: widest", PromiseTest::widest);
+        test("Promise 18: refused calls change nothing", PromiseTest::refusedCallsChangeNothing);
+        end();
     }
 
     // Promise 1
