@@ -175,6 +175,31 @@ public final class BoundaryRingsTest extends Cases {
                 dueMean(x, -1, 1);
             }
         });
+        test("Promise 14: the bottom asked for before the top", () -> {
+            for (int engine = 0; engine < MEAN_ENGINES; engine++) {
+                PathSuite x = ringOf(5, 3);
+                due("meanBottom(" + engine + ")", x.meanBottom(engine), 5);
+                due("change(0, 19)", x.change(0, 19), 20);
+                due("meanBottom(" + engine + ") after change", x.meanBottom(engine), 5);
+                x.remove(4);
+                due("meanBottom(" + engine + ") without the ring", x.meanBottom(engine), NONE);
+                x.add(3, 0, 1);
+                due("meanBottom(" + engine + ") of a ring of four", x.meanBottom(engine), 4);
+            }
+        });
+        test("Promises 13 to 15: whatever was asked before", () -> {
+            for (int engine = 0; engine < MEAN_ENGINES; engine++) {
+                for (int s = 0; s < POINTS; s++) {
+                    PathSuite x = network(6, 6, 2, 5, 6, -20, 6, 4, -20, 3, 3, 4, 2, 2, 3);
+                    due("fewest(" + s + ", " + s + ")", x.fewest(s, s), 0);
+                    due("meanTop(" + engine + ")", x.meanTop(engine), 2);
+                    due("fewest(" + s + ", " + s + ")", x.fewest(s, s), 0);
+                    due("meanBottom(" + engine + ")", x.meanBottom(engine), 1);
+                    due("fewest(" + s + ", " + s + ")", x.fewest(s, s), 0);
+                    due("onLeastRing()", x.onLeastRing(), bits(6));
+                }
+            }
+        });
         test("Promises 13 and 14: no engine changes the answer of the other", () -> {
             PathSuite x = ringOf(4, 6);
             due("meanTop(0)", x.meanTop(0), 3);

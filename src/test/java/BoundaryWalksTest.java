@@ -152,6 +152,38 @@ public final class BoundaryWalksTest extends Cases {
                 }
             }
         });
+        test("Promise 6: LOW by a ring of each length between s and t", () -> {
+            for (int length = 1; length <= 5; length++) {
+                for (int out = 0; out < length; out++) {
+                    int[] weights = new int[length];
+                    weights[0] = -1;
+                    PathSuite x = ring(weights);
+                    x.add(5, 0, 20);
+                    x.add(out, 6, 20);
+                    dueByEachEngine(x, 5, 6, LOW);
+                    dueByEachEngine(x, 5, 5, 0);
+                    dueByEachEngine(x, 6, 6, 0);
+                    dueByEachEngine(x, 6, 5, NONE);
+                }
+            }
+        });
+        test("Promise 6: LOW wherever the only loop below 0 stands among twenty", () -> {
+            for (int k = 0; k < ARCS; k++) {
+                PathSuite x = full(2, 2, 0);
+                dueByEachEngine(x, 2, 2, 0);
+                x.change(k, -1);
+                dueByEachEngine(x, 2, 2, LOW);
+            }
+        });
+        test("Promise 6: LOW comes to every point behind a loop, against the order of the arcs", () -> {
+            // From 6 each point is lighter at once than the way by the loop makes it for long.
+            PathSuite x = network(4, 5, 0, 3, 4, 0, 2, 3, 0, 1, 2, 0, 0, 1, 20, 0, 0, -1, 6, 0, 20,
+                    6, 1, -20, 6, 2, -20, 6, 3, -20, 6, 4, -20, 6, 5, -20);
+            for (int t = 0; t < 6; t++) {
+                dueByEachEngine(x, 6, t, LOW);
+            }
+            dueByEachEngine(x, 6, 6, 0);
+        });
         test("Promise 6: not LOW by a ring of each length with the weight 0", () -> {
             for (int length = 1; length <= POINTS; length++) {
                 int[] weights = new int[length];
