@@ -1,9 +1,13 @@
 import com.sun.source.tree.ArrayTypeTree;
 import com.sun.source.tree.AssignmentTree;
+import com.sun.source.tree.BinaryTree;
 import com.sun.source.tree.ClassTree;
 import com.sun.source.tree.CompilationUnitTree;
+import com.sun.source.tree.CompoundAssignmentTree;
 import com.sun.source.tree.DoWhileLoopTree;
+import com.sun.source.tree.EnhancedForLoopTree;
 import com.sun.source.tree.ExpressionTree;
+import com.sun.source.tree.ForLoopTree;
 import com.sun.source.tree.IdentifierTree;
 import com.sun.source.tree.LineMap;
 import com.sun.source.tree.LiteralTree;
@@ -13,6 +17,7 @@ import com.sun.source.tree.MethodTree;
 import com.sun.source.tree.NewArrayTree;
 import com.sun.source.tree.PrimitiveTypeTree;
 import com.sun.source.tree.Tree;
+import com.sun.source.tree.UnaryTree;
 import com.sun.source.tree.VariableTree;
 import com.sun.source.tree.WhileLoopTree;
 import com.sun.source.util.JavacTask;
@@ -206,6 +211,65 @@ public final class LanguageTest extends TreeScanner<Void, Void> {
     public Void visitDoWhileLoop(DoWhileLoopTree tree, Void unused) {
         rule(8, tree, false);
         return super.visitDoWhileLoop(tree, unused);
+    }
+
+    @Override
+    public Void visitEnhancedForLoop(EnhancedForLoopTree tree, Void unused) {
+        rule(8, tree, false);
+        return super.visitEnhancedForLoop(tree, unused);
+    }
+
+    @Override
+    public Void visitForLoop(ForLoopTree tree, Void unused) {
+        boolean counts = tree.getInitializer().size() == 1 && tree.getInitializer().get(0) instanceof VariableTree
+                && tree.getUpdate().size() == 1;
+        rule(8, tree, counts);
+        if (counts) {
+            String counter = ((VariableTree) tree.getInitializer().get(0)).getName().toString();
+            rule(8, tree, stepsToBound(tree, counter));
+            rule(8, tree, !isSet(counter, tree.getStatement()));
+        }
+        return super.visitForLoop(tree, unused);
+    }
+
+    // The step goes up to a constant above or down to one below, which stands first where there are two conditions.
+    private static boolean stepsToBound(ForLoopTree tree, String counter) {
+        String step = tree.getUpdate().get(0).getExpression().toString();
+        ExpressionTree condition = tree.getCondition();
+        while (condition instanceof BinaryTree both && both.getKind() == Tree.Kind.CONDITIONAL_AND) {
+            condition = both.getLeftOperand();
+        }
+        boolean isCompared = condition instanceof BinaryTree compared
+                && compared.getLeftOperand().toString().equals(counter)
+                && compared.getRightOperand().toString().matches("[A-Z0-9_ *]+");
+        boolean up = condition.getKind() == Tree.Kind.LESS_THAN || condition.getKind() == Tree.Kind.LESS_THAN_EQUAL;
+        boolean down = condition.getKind() == Tree.Kind.GREATER_THAN;
+        return isCompared && (up && step.equals(counter + "++") || down && step.equals(counter + "--"));
+    }
+
+    private static boolean isSet(String name, Tree body) {
+        boolean[] found = {false};
+        new TreeScanner<Void, Void>() {
+            @Override
+            public Void visitAssignment(AssignmentTree tree, Void unused) {
+                found[0] |= tree.getVariable().toString().equals(name);
+                return super.visitAssignment(tree, unused);
+            }
+
+            @Override
+            public Void visitCompoundAssignment(CompoundAssignmentTree tree, Void unused) {
+                found[0] |= tree.getVariable().toString().equals(name);
+                return super.visitCompoundAssignment(tree, unused);
+            }
+
+            @Override
+            public Void visitUnary(UnaryTree tree, Void unused) {
+                boolean steps = tree.getKind() != Tree.Kind.LOGICAL_COMPLEMENT && tree.getKind() != Tree.Kind.UNARY_MINUS;
+                found[0] |= steps && tree.getExpression().toString().equals(name);
+                return super.visitUnary(tree, unused);
+            }
+        }.scan(body, null);
+        return found[0];
     }
 
     private void lookAtCalls() {
